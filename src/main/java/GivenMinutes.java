@@ -740,10 +740,6 @@ public final class GivenMinutes {
             }
         }
 
-        int codeAt(int i) {
-            return i >= 0 && i < codes.length ? codes[i] : 0;
-        }
-
         /** What a sign or a word between two parts makes of them. */
         static int join(int sign, int a, int b) {
             switch (sign) {
@@ -969,20 +965,16 @@ public final class GivenMinutes {
             return number;
         }
 
-        private boolean has(int i) {
-            return i >= 0 && i < count && i < kinds.length;
-        }
-
         int kindAt(int i) {
-            return has(i) ? kinds[i] : END;
+            return i >= 0 && i < count && i < kinds.length ? kinds[i] : END;
         }
 
         int placeAt(int i) {
-            return has(i) ? places[i] : NONE;
+            return i >= 0 && i < count && i < places.length ? places[i] : NONE;
         }
 
         int numberAt(int i) {
-            return has(i) ? numbers[i] : 0;
+            return i >= 0 && i < count && i < numbers.length ? numbers[i] : 0;
         }
     }
 
@@ -1014,13 +1006,14 @@ public final class GivenMinutes {
             at = 0;
             kind = tokens.kindAt(0);
             found = 0;
-            place = NONE;
             isCornersTold = false;
             isClockTold = false;
             for (int lines = 0; lines < MOST_BYTES && kind != Tokens.END && found == 0; lines++) {
                 readLine();
                 needSign(';');
             }
+            // No TOKEN is read behind a FAULT: it is the one that is looked at.
+            place = found != 0 ? tokens.placeAt(at) : NONE;
             return found;
         }
 
@@ -1028,7 +1021,6 @@ public final class GivenMinutes {
             // What follows the first FAULT tells nothing: no kind fits any more.
             if (found == 0) {
                 found = code;
-                place = tokens.placeAt(at);
                 kind = STOPPED;
             }
         }
@@ -1488,32 +1480,28 @@ public final class GivenMinutes {
         /** What a rule gives of one (and of one who asks). */
         private int workOut(Rule rule, State state, int p, int asking) {
             int top = 0;
-            for (int i = 0; i < rule.length; i++) {
-                int code = rule.codeAt(i);
-                if (code < 0) {
-                    put(top, ~code);
-                    top++;
-                } else if (code >= Tokens.LEFT) {
-                    put(top, valueOf(code, state, p, asking));
+            for (int i = 0; i < rule.length && i < rule.codes.length; i++) {
+                int code = rule.codes[i];
+                if (code < 0 || code >= Tokens.LEFT) {
+                    if (top < 0 || top >= stack.length) {
+                        return 0;
+                    }
+                    stack[top] = code < 0 ? ~code : valueOf(code, state, p, asking);
                     top++;
                 } else if (code == Tokens.NOT) {
-                    put(top - 1, at(top - 1) == 0 ? 1 : 0);
+                    if (top < 1 || top > stack.length) {
+                        return 0;
+                    }
+                    stack[top - 1] = stack[top - 1] == 0 ? 1 : 0;
                 } else {
-                    put(top - 2, Rule.join(code, at(top - 2), at(top - 1)));
+                    if (top < 2 || top > stack.length) {
+                        return 0;
+                    }
                     top--;
+                    stack[top - 1] = Rule.join(code, stack[top - 1], stack[top]);
                 }
             }
-            return at(0);
-        }
-
-        private void put(int place, int number) {
-            if (place >= 0 && place < stack.length) {
-                stack[place] = number;
-            }
-        }
-
-        private int at(int place) {
-            return place >= 0 && place < stack.length ? stack[place] : 0;
+            return top == 1 ? stack[0] : 0;
         }
 
         private int valueOf(int code, State state, int p, int asking) {

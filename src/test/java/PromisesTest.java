@@ -88,6 +88,9 @@ public final class PromisesTest {
         GivenMinutes w = CHECK.quay("person 60 31 0 0;person 99 33 0 0;person 99 35 0 0;");
         w.steps(1);
         left("the least of like ones gives", w, 62, 95, 98);
+        GivenMinutes v = CHECK.quay("person 61 0 0 0;person 60 0 0 0;");
+        due("61 don't ask", v.asked(0, 1), -1);
+        due("60 ask", v.asked(1, 1), 0);
     }
 
     private static void stepsRefused() {
@@ -208,6 +211,10 @@ public final class PromisesTest {
         due("stay again", x.stay(2, true), false);
         due("stay not, as it is", x.stay(1, false), false);
         CHECK.noSuch("stay nobody", () -> x.stay(4, true));
+        due("stay no longer", x.stay(2, false), true);
+        due("nobody stays in", x.count(6), 0);
+        due("undo it", x.undo(), 5);
+        due("stays in", x.count(6), 4);
         due("refused", x.count(13), 8);
         due("acts", x.count(9), 5);
         x.steps(20);
@@ -330,6 +337,11 @@ public final class PromisesTest {
         due("robbed 3", x.robbed(3, 0, 5), 4);
         due("robbed not", x.robbed(0, 1, 5), 0);
         due("robbed by oneself", x.robbed(1, 1, 5), 0);
+        GivenMinutes z = CHECK.quay("person 0 0 0 1;".repeat(5) + "person 9 30 0 0;person 80 35 0 0;person 70 37 0 0;");
+        due("6 gives 5", z.robbed(6, 5, 1), 5);
+        due("not 7", z.robbed(7, 5, 1), 0);
+        due("not the other way", z.robbed(5, 6, 1), 0);
+        due("busiest is 6", z.busiest(1), 6);
         CHECK.noSuch("robbed nobody", () -> x.robbed(0, 4, 61));
         CHECK.noSuch("nobody robbed", () -> x.robbed(4, 0, 61));
         CHECK.illegal("robbed 61", () -> x.robbed(0, 1, 61));
@@ -415,6 +427,8 @@ public final class PromisesTest {
         due("to last 16", z.toLast(0, 16), 961);
         due("to last 17", z.toLast(0, 17), -1);
         due("left stays", z.person(0, 0), 5);
+        GivenMinutes w = CHECK.quay("person 5 0 0 0;person 5 0 1 0;asks mean;says 59-(step=16)*22;");
+        due("to last: just 999", w.toLast(0, 17), 999);
     }
 
     // ==== 27, 28
@@ -521,6 +535,9 @@ public final class PromisesTest {
         due("the ninth", x.see(0, 20, 999), -1);
         due("refused", x.count(14), 5);
         due("seen", x.count(10), 8);
+        x.forget();
+        due("0 left", x.see(3, 0, 0), 1);
+        due("999 left, behind 20", x.see(3, 20, 999), 2);
     }
 
     private static void lookNext() {
@@ -532,6 +549,10 @@ public final class PromisesTest {
         due("how many", y.look(1), 60);
         y.see(1, 20, 999);
         due("without any", y.look(0), -1);
+        GivenMinutes z = CHECK.quay("person 10 30 1 0;person 500 30 0 0;asks mean and step=4;");
+        due("behind 5 steps", z.look(1), 60);
+        GivenMinutes w = CHECK.quay("person 10 30 1 0;person 500 30 0 0;asks mean and step=5;");
+        due("not behind 6", w.look(1), 1);
         due("another one than one has", CHECK.quay("person 9 9 0 0;").fast(0), 59);
         due("the first isn't one's own", CHECK.quay("person 9 0 0 0;").fast(1), 1);
     }
@@ -558,6 +579,14 @@ public final class PromisesTest {
         GivenMinutes z = CHECK.quay("person 40 50 0 0;person 100 50 0 1;");
         due("apart", z.game(0, 1, 0), 1);
         due("apart nobody hides", z.game(0, 1, 1), 0);
+        GivenMinutes w = CHECK.quay("person 10 30 1 0;person 100 30 0 0;asks mean and step<1;says 8;");
+        due("as much by hiding: two rest", w.game(0, 1, 0), 2);
+        due("the first of two", w.game(0, 1, 1), 0);
+        due("two rest, from the other side", w.game(1, 0, 0), 2);
+        GivenMinutes v = CHECK.quay("person 10 30 1 0;person 100 30 0 0;asks mean and step=5;says 40;");
+        due("six steps", v.game(0, 1, 1), 1);
+        GivenMinutes u = CHECK.quay("person 10 30 1 0;person 100 30 0 0;asks mean and step=6;says 40;");
+        due("not seven", u.game(0, 1, 1), 0);
         CHECK.noSuch("game nobody", () -> x.game(4, 4, 0));
         CHECK.noSuch("game nobody", () -> x.game(0, 4, 0));
         CHECK.noSuch("game what", () -> x.game(0, 0, 2));
@@ -587,6 +616,11 @@ public final class PromisesTest {
         due("minutes of seed " + seed, x.years(seed, 1, 0), y.later(1, 4));
         due("left of seed " + seed, x.years(seed, 1, 1), y.later(1, 3));
         due("alive of seed " + seed, x.years(seed, 1, 2), y.later(1, 0));
+        if (drawn == 1) {
+            x.stay(second % 3, true);
+            y.stay(second % 3, false);
+            due("stays in no more by seed " + seed, x.years(seed, 1, 1), y.later(1, 3));
+        }
     }
 
     private static void yearsBySeed() {
@@ -604,11 +638,6 @@ public final class PromisesTest {
         CHECK.illegal("years -1", () -> x.years(5, -1, 0));
         x.years(5, 60, 1);
         due("nothing went by", x.count(2), 0);
-        // A second DRAW of the same one who STAYS IN: not any more.
-        x.stay(0, true);
-        x.stay(1, true);
-        x.stay(2, true);
-        due("stays in till drawn", x.years(5, 1, 0), x.later(1, 4));
     }
 
     // ==== 40, 41
@@ -639,8 +668,14 @@ public final class PromisesTest {
         due("seen is so", x.fast(2), 1);
         due("undo behind it", x.undo(), 0);
         left("undone", x, 50, 200, 100, 5);
+        x.forget();
+        x.see(1, 3, 5);
         due("restore again", x.restore(), true);
         due("step", x.count(2), 2);
+        due("seen as it was", x.fast(2), 1);
+        x.forget();
+        x.see(2, 0, 98);
+        due("seen now", x.fast(2), 1);
         x.steps(1);
         x.image();
         x.steps(1);

@@ -89,6 +89,19 @@ public final class TextTest {
         CHECK.due("no image", x.restore(), false);
         CHECK.due("no acts", x.undo(), -1);
         CHECK.due("walk", x.person(0, 4), 2);
+        CHECK.due("rules that give", Check.tell(x, "person 10 30 0 0;person 90 30 0 0;asks left=10;says 7;"), 0);
+        x.steps(1);
+        CHECK.due("given", x.person(1, 5), 7);
+        CHECK.due("no rules any more", Check.tell(x, "person 9 30 0 0 1;person 90 35 0 0;miser 0 0 0 1;"), 0);
+        CHECK.due("nothing is given", x.person(1, 5), 0);
+        CHECK.due("asks without a rule", x.asked(0, 1), 1);
+        CHECK.due("says without a rule", x.robbed(1, 0, 1), 5);
+        CHECK.due("the walk is new", x.where(1, 2), 0);
+        CHECK.due("faulty", Check.tell(x, "miser 1 1 1 0;says 3;asks 1;clock 60;"), 2);
+        CHECK.due("says as before", x.robbed(1, 0, 1), 5);
+        CHECK.due("nobody", Check.tell(x, ""), 0);
+        CHECK.due("left of nobody", x.count(7), 0);
+        CHECK.due("nobody isn't spent", x.count(5), 0);
     }
 
     private static void fineTexts() {
@@ -154,6 +167,15 @@ public final class TextTest {
         fault(1, "asks ^\u00e9;");
     }
 
+    private static void longTexts() {
+        String sum = "asks 1" + "+1".repeat(346);
+        fine(sum + ";");
+        fine(sum + " ;");
+        fault(1, sum + "+1^");
+        fault(2, "says 1" + "+(1)".repeat(170) + "+12+^12345;");
+        fine(PERSON.repeat(8) + "says 1" + "*1".repeat(280) + ";");
+    }
+
     private static void tooMuch() {
         fault(2, "corners ^1;");
         fault(2, "corners ^7;");
@@ -183,6 +205,8 @@ public final class TextTest {
 
     private static void isntThere() {
         fault(3, "asks ^blue;");
+        fault(3, "asks ^z;");
+        fault(3, "asks ^zz;");
         fault(3, "asks ^and;");
         fault(3, "asks ^or 1;");
         fault(3, "asks ^corners;");
@@ -214,6 +238,7 @@ public final class TextTest {
         tape();
         anew();
         fineTexts();
+        longTexts();
         cantStand();
         tooMuch();
         isntThere();

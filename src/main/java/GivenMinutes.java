@@ -58,7 +58,7 @@ public final class GivenMinutes {
     private int seed = 0;
 
     public GivenMinutes() {
-        now.beginOn(quay);
+        // Nothing is left to do: a Quay begins with 3 CORNERS and nobody, a State at STEP 0.
     }
 
     // ==== The tape and the text
@@ -1169,7 +1169,7 @@ public final class GivenMinutes {
                 nots++;
             }
             if (kind == Tokens.NOT) {
-                fail(nots < MOST_NOTS ? CANT_STAND : TOO_MUCH);
+                fail(TOO_MUCH);
             }
             readTest(within);
             for (int n = 0; n < nots; n++) {

@@ -102,11 +102,11 @@ public final class RandomRunsTest {
             case "person": case "other": return rarely(25) ? below(10) - 1 : below(people);
             case "steps": return rarely(2) ? below(63) - 1 : 1 + below(6);
             case "k": return below(62);
-            case "many": return rarely(8) ? below(24) - 1 : 1 + below(20);
+            case "many": return rarely(8) ? below(24) - 1 : 1 + below(4);
             case "watch": return below(61);
             case "minutes": return below(102);
             case "left": return rarely(2) ? below(1001) : below(100);
-            case "what": return below(8) - (rarely(9) ? 1 : 0);
+            case "what": return rarely(6) ? below(8) - 1 : below(3);
             case "tenths": return below(12) - (rarely(9) ? 1 : 0);
             case "n": return below(62);
             default: return random.nextInt();
@@ -151,9 +151,9 @@ public final class RandomRunsTest {
     private void run() {
         if (!rarely(10)) tell();
         for (int n = 0; n < CALLS; n++) {
-            if (rarely(60)) tell();
+            if (rarely(30)) tell();
             else if (rarely(12)) seeWhatIsSo();
-            else if (rarely(9)) same("steps", new Object[] {1 + below(20)});
+            else if (rarely(9)) same("steps", new Object[] {1 + below(rarely(6) ? 20 : 3)});
             else if (rarely(30)) same("undo", new Object[0]);
             else callAny();
             if (rarely(3)) same("count", new Object[] {below(15)});

@@ -3,22 +3,12 @@ public final class TextTest {
     private static final Check CHECK = new Check();
     private static final String PERSON = "person 1 2 3 0;";
 
-    /** The FAULT of a text is due at the place where '^' stands in it. */
     private static void fault(int code, String marked) {
-        int place = marked.indexOf('^');
-        String text = marked.replace("^", "");
-        GivenMinutes x = new GivenMinutes();
-        CHECK.due("quay " + text, Check.tell(x, text), code);
-        CHECK.due("fault " + text, x.fault(), place);
-        CHECK.due("status " + text, x.count(12), 1);
-        CHECK.due("tape " + text, x.count(11), 0);
+        CHECK.fault(code, marked);
     }
 
     private static void fine(String text) {
-        GivenMinutes x = new GivenMinutes();
-        CHECK.due("quay " + text, Check.tell(x, text), 0);
-        CHECK.due("fault " + text, x.fault(), -1);
-        CHECK.due("status " + text, x.count(12), 0);
+        CHECK.fine(text);
     }
 
     private static void newObject() {

@@ -347,6 +347,31 @@ public final class ActEdgesTest {
         }
     }
 
+    // ==== 512 calls of one object
+
+    private static void asManyCallsAsThereMayBe() {
+        GivenMinutes x = CHECK.quay("");
+        for (int n = 2; n <= 511; n++) {
+            x.steps(0);
+        }
+        due("the 512th call", x.count(13), 510);
+        GivenMinutes y = CHECK.quay("");
+        for (int n = 2; n <= 511; n++) {
+            y.steps(1);
+        }
+        due("the 512th call", y.count(2), 510);
+        GivenMinutes z = CHECK.quay("");
+        for (int n = 2; n <= 511; n++) {
+            z.stop(n % 2 == 0);
+        }
+        due("the 512th call", z.undo(), 39);
+        GivenMinutes w = CHECK.quay("person 999 30 0 0;person 999 30 0 0;asks 1;");
+        for (int n = 8; n <= 511; n++) {
+            CHECK.noSuch("nobody", () -> w.give(2, 5));
+        }
+        due("the 512th call", w.steps(20), 20);
+    }
+
     // ==== STATUS
 
     private static void statuses() {
@@ -505,6 +530,7 @@ public final class ActEdgesTest {
         undoingLeavesTheRest();
         eightSeen();
         eachSeenCounts();
+        asManyCallsAsThereMayBe();
         statuses();
         noImage();
         asTheImage();

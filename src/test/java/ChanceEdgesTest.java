@@ -120,6 +120,94 @@ public final class ChanceEdgesTest {
         due("nothing changes", v.count(9) + v.count(10) + v.person(0, 1), 30);
     }
 
+    /** As it is without, both ask one another for nothing; each other WATCH gives other minutes. */
+    private static void lookByOthersAlone() {
+        for (int clock : new int[] {29, 30, 31}) {
+            int watch = (90 - clock) % 60;
+            String person = "person 300 " + watch + " 0 0;";
+            GivenMinutes x = CHECK.quay("clock " + clock + ";" + person + person + "asks step<1;");
+            due("what it is without isn't one of them", x.look(1), 118);
+            due("behind 5 STEPS from now on", x.look(0), 0);
+        }
+        GivenMinutes y = lookAt("step=6");
+        y.see(1, 3, 497);
+        due("so by all", y.fast(0), 118);
+        due("not behind what is SEEN", y.look(1), 1);
+        GivenMinutes z = lookAt("step=4");
+        z.see(1, 20, 480);
+        due("what is SEEN behind it counts", z.look(1), 1);
+    }
+
+    /** By ACTS on other objects: who has how many unlike numbers. */
+    private static void lookByActs(String text, int[] see) {
+        GivenMinutes x = CHECK.quay(text);
+        if (see.length == 3) {
+            x.see(see[0], see[1], see[2]);
+        }
+        int people = x.count(1);
+        boolean[][] isThere = new boolean[people][1000];
+        int many = 0;
+        int first = -1;
+        for (int p = 0; p < people; p++) {
+            for (int watch = 0; watch < 60; watch++) {
+                GivenMinutes y = CHECK.quay(text);
+                boolean isAnother = y.set(p, watch) >= 0;
+                if (!isAnother || see.length == 3 && y.then(see[0], see[1], 0) != see[2]) {
+                    continue;
+                }
+                many++;
+                first = first < 0 ? 100 * p + watch : first;
+                for (int q = 0; q < people; q++) {
+                    isThere[q][y.then(q, 5, 0)] = true;
+                }
+            }
+        }
+        int best = -1;
+        int most = 0;
+        for (int p = 0; p < people; p++) {
+            int unlike = 0;
+            for (boolean is : isThere[p]) {
+                unlike += is ? 1 : 0;
+            }
+            if (unlike > most) {
+                most = unlike;
+                best = p;
+            }
+        }
+        due("FAST: " + text, x.fast(0), many);
+        due("the first: " + text, x.fast(1), first);
+        due("LOOK NEXT at: " + text, x.look(0), best);
+        due("LOOK NEXT: " + text, x.look(1), most);
+    }
+
+    private static void lookAtMany() {
+        for (int left = 100; left <= 999; left += 11) {
+            lookByActs("person " + left + " 30 0 0;person " + left + " 30 0 0;asks step<1;", new int[0]);
+        }
+        for (int left = 60; left < 130; left++) {
+            lookByActs("person " + left + " 30 0 0;person 200 30 0 0;asks step<1;", new int[0]);
+        }
+        String rich = "person 989 30 0 0;person 7 0 0 0;person 1 30 1 0;person 965 30 0 1;person 3 30 1 1;person 5 0 0 1;"
+            + "person 960 30 0 2;person 9 30 1 2;asks mean and step<1;";
+        lookByActs(rich, new int[0]);
+        lookByActs(rich + "says shown/2;", new int[] {0, 0, 989});
+        lookByActs(rich + "says shown/2;", new int[] {0, 1, 984});
+        for (int left = 0; left <= 999; left += 37) {
+            for (int poor = 5; poor < 200; poor += 58) {
+                String one = "person " + left + " 30 0 1;";
+                String other = "person " + poor + " 30 1 0;";
+                lookByActs(one + other + "person 500 30 0 0;asks mean and step=3;", new int[0]);
+                lookByActs("person 500 30 0 0;" + other + one + "asks mean and step=3;", new int[0]);
+            }
+        }
+        String last = "person 3 30 0 0;".repeat(6) + "person 900 30 0 1;person 500 30 1 1;asks mean;";
+        lookByActs(last, new int[0]);
+        lookByActs(last + "says shown;", new int[] {7, 1, 504});
+        lookByActs("person 3 30 0 0;".repeat(6) + "person 500 30 1 1;person 900 30 0 1;asks mean and step=3;", new int[] {6, 5, 530});
+        lookByActs("person 40 30 0 0;person 50 40 0 0;person 45 50 0 0 1;miser 300 0 1 0 1 2;", new int[] {1, 2, 70});
+        lookByActs("person 40 30 0 0;person 50 40 0 0;person 45 50 0 0 1;miser 300 0 1 0 1 2;", new int[0]);
+    }
+
     // ==== 37: FOG
 
     private static int power(int base, int exponent) {
@@ -350,6 +438,8 @@ public final class ChanceEdgesTest {
         fastByOne();
         seenBehind();
         lookNext();
+        lookByOthersAlone();
+        lookAtMany();
         fog();
         games();
         gamesOfOthers();

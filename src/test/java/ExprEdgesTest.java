@@ -243,6 +243,23 @@ public final class ExprEdgesTest {
         gives("1 and not 0 and 1", 1);
     }
 
+    /** As many PARTS wait for one another as can. */
+    private static void mostParts() {
+        String one = "0 or 1 and 1=9-4*2";
+        String other = "0 or 1 and 3<4-1*(";
+        gives(one, 1);
+        for (int n = 1; n <= 4; n++) {
+            gives(other.repeat(n) + one + ")".repeat(n), n % 2 == 0 ? 1 : 0);
+            gives("0 or 1-1 or 0 and 1<" + other.repeat(n) + one + ")".repeat(n) + "*2", n % 2 == 0 ? 1 : 0);
+        }
+        gives("1-1+1*1 or 0 and not not not not not not 1<1", 1);
+        // The outermost EXPR, too.
+        String last = other.repeat(5) + one + ")".repeat(5);
+        CHECK.due("says " + last, CHECK.quay("person 10 30 1 0;person 500 30 0 0;asks mean;says " + last + ";").robbed(1, 0, 1), 0);
+        CHECK.due("says 7*" + last, CHECK.quay("person 10 30 1 0;person 500 30 0 0;asks mean;says 0 or 5<7*(" + other.repeat(4) + one
+            + ")".repeat(5) + ";").robbed(1, 0, 1), 1);
+    }
+
     private static void testsAreOneOrZero() {
         int[] some = {0, 1, 2, 4, 5, -1, -2, Integer.MIN_VALUE};
         for (int a : some) {
@@ -303,6 +320,20 @@ public final class ExprEdgesTest {
         }
     }
 
+    /** A NUMBER is what it is, whoever has GIVEN how much. */
+    private static void numbersStay() {
+        GivenMinutes x = CHECK.quay("person 200 30 1 0;person 500 37 3 0;asks mean=1-0;says 5+0*given-0;");
+        x.steps(3);
+        CHECK.due("GIVEN", x.person(1, 5), 15);
+        CHECK.due("given in one more", x.later(1, 4), 5);
+        GivenMinutes y = CHECK.quay("person 200 30 1 0;person 500 37 3 0;asks mean=1;says 0;");
+        y.steps(3);
+        CHECK.due("0 in one more", y.later(1, 4), 0);
+        GivenMinutes z = CHECK.quay("person 200 30 1 0;person 500 37 3 0;asks mean=1;says (step=0)*7;");
+        z.steps(1);
+        CHECK.due("0 then", z.later(1, 4), 0);
+    }
+
     private static void companyOfUpToSeven() {
         for (int many = 1; many <= 7; many++) {
             GivenMinutes x = CHECK.quay("person 20 30 1 0;" + "person 500 30 0 0;".repeat(many) + "asks mean;says company;");
@@ -353,8 +384,10 @@ public final class ExprEdgesTest {
         ints();
         cutDown();
         fromTheLeft();
+        mostParts();
         testsAreOneOrZero();
         valuesOfOne();
+        numbersStay();
         companyOfUpToSeven();
         valuesAtTheirMost();
         CHECK.end();

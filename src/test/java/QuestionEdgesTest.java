@@ -120,6 +120,9 @@ public final class QuestionEdgesTest {
         due("ALIVE behind 5", z.later(5, 0), 4 + 16);
         due("TOTAL behind 5", z.later(5, 3), 4);
         due("TOTAL behind 7", z.later(7, 3), 0);
+        due("POOREST of the richest", CHECK.quay("person 0 0 0 0;person 999 0 0 0;person 999 0 0 0;").later(0, 2), 1);
+        due("POOREST by one", CHECK.quay("person 999 0 0 0;person 998 0 0 0;person 0 0 0 0;").later(0, 2), 1);
+        due("RICHEST of the poorest", CHECK.quay("person 0 0 0 0;person 1 0 0 0;person 1 0 0 0;").later(0, 1), 1);
         GivenMinutes w = CHECK.quay("person 998 30 1 0;person 999 30 0 0;asks mean and step<1;says 59;");
         due("TOTAL is what is LEFT", w.later(1, 3), 998 + 939);
         due("PASSED is what was given, kept or not", w.later(1, 4), 59);
@@ -253,6 +256,13 @@ public final class QuestionEdgesTest {
         GivenMinutes all = CHECK.quay("corners 6;person 5 0 0 0;person 5 0 0 1;person 5 0 0 2;person 5 0 0 3;person 5 0 0 4;person 5 0 0 5;");
         due("all CORNERS", all.watch(1), 63);
         due("all CORNERS", all.watch(60), 63);
+        for (int bits = 0; bits < 64; bits++) {
+            StringBuilder text = new StringBuilder("corners 6;");
+            for (int corner = 0; corner < 6; corner++) {
+                text.append((bits >> corner & 1) == 1 ? "person 5 0 0 " + corner + ";" : "");
+            }
+            due("just those CORNERS", CHECK.quay(text.toString()).watch(60), bits);
+        }
         GivenMinutes x = CHECK.quay("corners 6;person 5 0 0 0 0 0 0 0 5;person 5 0 0 5;");
         due("in one STEP", x.watch(1), 33);
         due("in five STEPS", x.watch(5), 33);

@@ -139,6 +139,30 @@ public final class TextEdgesTest {
         due("THE CLOCK isn't STOPPED", x.count(4), 0);
     }
 
+    /** What texts ahead told, good ones or with a FAULT, tells nothing of the next one. */
+    private static void allAnew() {
+        GivenMinutes x = new GivenMinutes();
+        String much = "corners 6;" + "miser 999 59 9 5 5 5 5 5 5;".repeat(8) + "clock 59;asks left*7;says given+3;";
+        String little = "person 60 45 0 0;person 900 45 0 0;";
+        String[] ahead = {much, much + "x", much + much, "corners 6;miser 1 2 3 5;", "says 1;asks 1;miser 1 2 3 0;x", little + "x", ""};
+        for (String first : ahead) {
+            for (String second : ahead) {
+                Check.tell(x, first);
+                Check.tell(x, second);
+                due("little", Check.tell(x, little), 0);
+                due("CORNERS", x.count(0), 3);
+                due("PEOPLE", x.count(1), 2);
+                due("THE CLOCK", x.count(3), 0);
+                due("LEFT of all", x.count(7), 960);
+                due("no misers", x.person(0, 6) + x.person(1, 6), 0);
+                due("a WALK of one CORNER", x.where(0, 2), 0);
+                due("no ASKS", x.asked(0, 1), 1);
+                due("no SAYS", x.later(1, 4), 15);
+            }
+            x = new GivenMinutes();
+        }
+    }
+
     // ==== Promise 4: the place of the latest FAULT
 
     private static void latestFault() {
@@ -357,6 +381,7 @@ public final class TextEdgesTest {
         whatAFaultLeaves();
         whatAnExceptionLeaves();
         whatAGoodTextLeaves();
+        allAnew();
         latestFault();
         numbers();
         numbersOfAnExpr();

@@ -442,7 +442,7 @@ public final class ActEdgesTest {
         }
         x.give(2, 1);
         due("restore", x.restore(), true);
-        CHECK.due("all as it was", Check.told(x), then);
+        CHECK.due("as it was", Check.told(x), then);
         CHECK.due("STATUS as it was", Check.status(x), status);
         GivenMinutes like = busy();
         like.image();

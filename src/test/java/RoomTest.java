@@ -29,7 +29,7 @@ public final class RoomTest {
         GivenMinutes y = new GivenMinutes();
         long ofOne = made() - before;
         before = made();
-        for (int n = 0; n < 30; n++) {
+        for (int n = 0; n < 20; n++) {
             sum += dear(x, n);
         }
         long ofCalls = made() - before;

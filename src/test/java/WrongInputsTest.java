@@ -38,7 +38,6 @@ public final class WrongInputsTest {
         if (people > 0) {
             x.see(people - 1, 1, 697);
             x.see(0, 21, 5);
-            x.give(0, 30);
             x.set(0, 5);
         }
         x.image();
